@@ -669,6 +669,15 @@ public final class LineToWreck {
         int left(int fired) {
             return (1 << number) - 1 & ~fired;
         }
+
+        int leastOf(int set) {
+            for (int rocket = 0; rocket < number; rocket++) {
+                if (isIn(set, rocket)) {
+                    return rocket;
+                }
+            }
+            return NONE;
+        }
     }
 
     /** The men, and who of them comes BEHIND whom; that stays when an IMAGE is gone back to. */
@@ -1072,7 +1081,7 @@ public final class LineToWreck {
                 if (line || broken || left == 0) {
                     return;
                 }
-                int rocket = Integer.numberOfTrailingZeros(left);
+                int rocket = rockets.leastOf(left);
                 left = without(left, rocket);
                 shots++;
                 line = waters.isRight(rockets.fallsAt(rocket, stage, drawGust(waters), waters));

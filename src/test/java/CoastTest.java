@@ -8,6 +8,7 @@ public final class CoastTest {
         stations();
         nightsEndAtOnce();
         nightsByDraws();
+        nightsByGustsAgainst();
         nightsRefusals();
         CHECK.end("CoastTest");
     }
@@ -53,6 +54,13 @@ public final class CoastTest {
         x.wreck(0);
         station(x, 20, 2, 20);
         station(x, 50, 1, 50);
+        LineToWreck ends = Check.night("50:0:091:0000");
+        ends.wreck(99);
+        station(ends, 0, 1, 99);
+        ends.wreck(0);
+        station(ends, 0, 2, 0);
+        station(ends, 49, 2, 49);
+        station(ends, 50, 1, 50);
         CHECK.refused(x, "stations(-1, 0)", OUTSIDE, y -> y.stations(-1, 0));
         CHECK.refused(x, "stations(51, 0)", OUTSIDE, y -> y.stations(51, 0));
         CHECK.refused(x, "stations(5, 2)", OUTSIDE, y -> y.stations(5, 2));
@@ -110,6 +118,17 @@ public final class CoastTest {
         gusty.rocket(55, 0);
         for (int seed = 0; seed < 60; seed++) {
             gustyNight(gusty, seed);
+        }
+    }
+
+    /** One rocket, right by a gust against alone, and a ship that holds in the first STAGE. */
+    private static void nightsByGustsAgainst() {
+        LineToWreck x = Check.night("50:9:325:00");
+        x.rocket(59, 0);
+        for (int seed = 0; seed < 60; seed++) {
+            int first = next(seed);
+            boolean right = draw(first) < 3;
+            ends(x, seed, right ? 1 : 0, 1, 0, right ? first : next(first));
         }
     }
 

@@ -79,6 +79,14 @@ public final class SaidTest {
         CHECK.due("sure(2) of no orders", x.sure(2), NONE);
         CHECK.refused(x, "sure(4)", UNKNOWN, y -> y.sure(4));
         CHECK.refused(x, "sure(-1)", UNKNOWN, y -> y.sure(-1));
+        LineToWreck circle = withMen(0, 0, 0);
+        circle.said(1, 2);
+        circle.behind(1, 2, true);
+        CHECK.due("sure(0) beside a circle", circle.sure(0), NONE);
+        LineToWreck two = withMen(0, 0);
+        two.said(0, 1);
+        CHECK.due("sure(0) of two", two.sure(0), 0);
+        CHECK.due("sure(1) of two", two.sure(1), 1);
         LineToWreck one = withMen(1);
         CHECK.due("sure(0) of one", one.sure(0), 0);
     }

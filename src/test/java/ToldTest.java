@@ -155,8 +155,9 @@ public final class ToldTest {
         LineToWreck x = Check.night("50:0:091:37");
         digest("a night", x, 50, 0, 0, 9, 1, 3, 7, -1, -1, -1, -1, -1, -1, -1, -1,
                 1, 0, 0, 0, 0, 0, 0, 0, 2, 60, 0, 0, 0, 1, 0);
-        x.rocket(50, 0);
-        x.rocket(60, 0);
+        // right in STAGE 0, which the digest asks, and not in the next; the other the other way
+        x.rocket(50, 1);
+        x.rocket(56, 1);
         x.man(1, 10);
         x.man(3, 20);
         x.fire(0, 0);
