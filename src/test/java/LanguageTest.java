@@ -1,4 +1,7 @@
 import java.io.IOException;
+import java.lang.reflect.Field;
+import java.lang.reflect.Method;
+import java.lang.reflect.Modifier;
 import java.nio.charset.StandardCharsets;
 import java.nio.file.Files;
 import java.nio.file.Path;
@@ -30,7 +33,34 @@ public final class LanguageTest {
         CHECK.due("divisors that may be 0: those of commonDivisor and inLowestTerms", places("[/%]=? *[a-zA-Z]", code
                 .replace("/ STAGE_MINUTES", "")), 2);
         CHECK.due("the longest method, 60 lines at most", longestMethod(code) <= 60 ? 1 : 0, 1);
+        for (Class<?> inside : LineToWreck.class.getDeclaredClasses()) {
+            sizes(inside);
+            namesOfTheFace(inside);
+        }
+        sizes(LineToWreck.class);
         CHECK.end("LanguageTest");
+    }
+
+    private static void sizes(Class<?> of) {
+        int fields = 0;
+        for (Field field : of.getDeclaredFields()) {
+            fields += Modifier.isStatic(field.getModifiers()) ? 0 : 1;
+        }
+        CHECK.due("fields of " + of.getName() + ", 20 at most", Math.max(fields, 20), 20);
+        for (Method method : of.getDeclaredMethods()) {
+            CHECK.due("parameters of " + method + ", 7 at most", Math.max(method.getParameterCount(), 7), 7);
+        }
+    }
+
+    private static void namesOfTheFace(Class<?> inside) {
+        for (Method method : inside.getDeclaredMethods()) {
+            int same = 0;
+            for (Method face : LineToWreck.class.getMethods()) {
+                boolean own = face.getDeclaringClass() == LineToWreck.class;
+                same += own && Modifier.isPrivate(method.getModifiers()) && face.getName().equals(method.getName()) ? 1 : 0;
+            }
+            CHECK.due("private methods by a public one's name: " + method, same, 0);
+        }
     }
 
     private static int places(String pattern, String code) {

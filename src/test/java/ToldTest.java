@@ -471,6 +471,8 @@ public final class ToldTest {
         CHECK.promise(30, "with WRECKS (all up to the next semicolon) what stations() tells of 10 for 0 and 1");
         LineToWreck x = Check.night("50:0:091:0");
         x.wreck(31);
+        digest(x, 50, 0, 0, 9, 1, 0, -1, -1, -1, -1, -1, -1, -1, -1, -1,
+                1, 1, 41, 0, 0, 0, 0, 0, 0, 0, 1, 60, 0, 1, 0, 1, 0);
         x.wreck(10);
         // 20 serves 10 alone, as 31 is 11 from it
         digest(x, 50, 0, 0, 9, 1, 0, -1, -1, -1, -1, -1, -1, -1, -1, -1,
